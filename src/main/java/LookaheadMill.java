@@ -372,7 +372,7 @@ public final class LookaheadMill {
             last++;
             left[last] = nonterminal;
             length[last] = 0;
-            if (!hasRule(nonterminal)) {
+            if (firstOf[nonterminal] == 0) {
                 firstOf[nonterminal] = last;
             }
             lastOf[nonterminal] = last;
@@ -703,7 +703,7 @@ public final class LookaheadMill {
         }
 
         boolean hasDone(int state, int production) {
-            return has(state, production, grammar.length[production]);
+            return (dots[state * PRODUCTIONS + production] >> grammar.length[production] & 1) != 0;
         }
 
         int goal(int state, int symbol) {
@@ -812,7 +812,8 @@ public final class LookaheadMill {
         }
 
         private void addProductions(int nonterminal) {
-            for (int production = grammar.firstOf[nonterminal]; production <= grammar.lastOf[nonterminal]; production++) {
+            int last = grammar.lastOf[nonterminal];
+            for (int production = grammar.firstOf[nonterminal]; production <= last; production++) {
                 made[production] |= 1;
             }
         }
