@@ -358,10 +358,8 @@ public final class LookaheadMill {
 
         void clear() {
             last = 0;
-            left[0] = NONE;
             length[0] = 0;
             Arrays.fill(firstOf, 0);
-            Arrays.fill(lastOf, 0);
         }
 
         boolean isFull() {

@@ -10,6 +10,7 @@ public final class ActionTest {
         shiftWithoutLevels();
         settledByLevels();
         levelIsOfTheLastToken();
+        productionWithoutTokens();
         twoToReduceBy();
         acceptOrReduce();
         unsettled();
@@ -103,6 +104,15 @@ public final class ActionTest {
         Check.same("the last token is lower", open.action(end, 'c'), LookaheadMill.SHIFT + open.go(end, 'c'));
         open.bind('a', 6, 0);
         Check.same("the last token is higher", open.action(end, 'c'), 1);
+    }
+
+    private static void productionWithoutTokens() {
+        LookaheadMill mill = Check.reading("A:CA|b;C:;");
+        mill.bind('b', 1, 0);
+        Check.same("its level is 0, so it shifts", mill.action(0, 'b'), LookaheadMill.SHIFT + mill.go(0, 'b'));
+        Check.same("how many are unsettled", mill.number(3), 2);
+        Check.same("in state 0", mill.unsettled(0), 1);
+        Check.same("in the state behind C", mill.unsettled(1), 16 * mill.go(0, 'C') + 1);
     }
 
     private static void twoToReduceBy() {

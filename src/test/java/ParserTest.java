@@ -55,6 +55,7 @@ public final class ParserTest {
         row(mill, "aa", FULL);
         mill.open(3, 60);
         row(mill, "aa", WAITS);
+        node(mill, 1, 'a', 0, 1, 2);
     }
 
     private static void accepts() {
@@ -194,6 +195,10 @@ public final class ParserTest {
         Check.same("node 58", round.node(58, 1), 2);
         Check.same("its child", round.child(59, 0), 58);
         Check.same("its yield ends", round.node(59, 4), 2);
+        LookaheadMill empty = Check.reading("A:D;B:C|;C:B;D:B;");
+        empty.open(24, 60);
+        row(empty, ".", FULL);
+        state(empty, FULL, 2, 0, 60);
     }
 
     private static void expected() {

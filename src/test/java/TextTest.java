@@ -180,6 +180,7 @@ public final class TextTest {
 
     private static void missingRules() {
         fault("A:aB;", 5, 3);
+        fault("B:bA;", 5, 3);
         fault("A:a|CB;", 5, 4);
         fault("A:a|B;B:HA|C;", 5, 8);
         fault("A:AB;", 5, 3);
