@@ -1,9 +1,12 @@
+import java.lang.reflect.Array;
 import java.lang.reflect.Constructor;
 import java.lang.reflect.Field;
 import java.lang.reflect.Member;
 import java.lang.reflect.Method;
 import java.lang.reflect.Modifier;
 import java.util.Arrays;
+import java.util.Collections;
+import java.util.IdentityHashMap;
 import java.util.Set;
 import java.util.TreeSet;
 
@@ -51,6 +54,7 @@ public final class FaceTest {
             inside(inside);
         }
         sizes(LookaheadMill.class);
+        room();
         Check.same("twelve classes at most", atMost(LookaheadMill.class.getDeclaredClasses().length + 1, 12), 0);
         Check.end();
     }
@@ -126,6 +130,40 @@ public final class FaceTest {
         Check.same("fields of " + each.getSimpleName(), atMost(fields, 20), 0);
         for (Method method : each.getDeclaredMethods()) {
             Check.same("parameters of " + method.getName(), atMost(method.getParameterCount(), 7), 0);
+        }
+    }
+
+    /** A run's objects share a room of 7.3 million fields and elements, so one of them must stay small. */
+    private static void room() {
+        Set<Object> held = Collections.newSetFromMap(new IdentityHashMap<>());
+        int places = hold(new LookaheadMill(), held);
+        Check.same("objects and arrays that one holds", atMost(held.size(), 60), 0);
+        Check.same("fields and elements that one holds", atMost(places, 6000), 0);
+    }
+
+    private static int hold(Object object, Set<Object> held) {
+        if (object == null || !held.add(object)) {
+            return 0;
+        }
+        if (object.getClass().isArray()) {
+            return Array.getLength(object);
+        }
+        int places = 0;
+        for (Field field : object.getClass().getDeclaredFields()) {
+            if (!Modifier.isStatic(field.getModifiers())) {
+                places++;
+                places += field.getType().isPrimitive() ? 0 : hold(valueOf(field, object), held);
+            }
+        }
+        return places;
+    }
+
+    private static Object valueOf(Field field, Object object) {
+        try {
+            field.setAccessible(true);
+            return field.get(object);
+        } catch (IllegalAccessException e) {
+            throw new IllegalStateException(e);
         }
     }
 

@@ -191,48 +191,18 @@ public final class GrammarTest {
         String[] texts = {SUMS, BY_AHEAD_ALONE, NOT_AT_ALL, "A:;", "H:hHh|;", "A:aBC;B:b|;C:c|BB;", "A:AaA|d;"};
         for (String before : texts) {
             for (String then : texts) {
-                LookaheadMill mill = Check.reading(before);
-                mill.wipe();
-                Check.write(mill, then);
-                Check.same("read() of " + then, mill.read(), 0);
-                Check.same(before + " then " + then, tables(mill), tables(Check.reading(then)));
+                String due = Tables.of(() -> Check.reading(then));
+                Check.same(before + " then " + then, Tables.of(() -> readingBoth(before, then)), due);
             }
         }
     }
 
-    private static String tables(LookaheadMill mill) {
-        StringBuilder all = new StringBuilder();
-        for (int what = 0; what < 4; what++) {
-            all.append(mill.number(what)).append(' ');
-        }
-        for (int production = 1; production <= mill.number(0); production++) {
-            char left = (char) mill.symbol(production, -1);
-            for (int which = 0; which < 3; which++) {
-                all.append(left).append(mill.set(left, which)).append(' ');
-            }
-        }
-        for (int state = 0; state < mill.number(1); state++) {
-            tablesOfState(mill, state, all);
-        }
-        return all.toString();
-    }
-
-    private static void tablesOfState(LookaheadMill mill, int state, StringBuilder all) {
-        all.append('\n');
-        for (int k = 0; mill.item(state, k) != -1; k++) {
-            all.append(mill.item(state, k)).append(' ');
-        }
-        for (char symbol : "ABCDEFGHabcdefgh".toCharArray()) {
-            all.append(mill.go(state, symbol)).append(' ');
-        }
-        for (char token : "abcdefgh.".toCharArray()) {
-            all.append(mill.action(state, token)).append(' ');
-        }
-        for (int production = 0; production <= mill.number(0); production++) {
-            for (int sort = 0; sort < 3; sort++) {
-                all.append(mill.behind(state, production, sort)).append(' ');
-            }
-        }
+    private static LookaheadMill readingBoth(String before, String then) {
+        LookaheadMill mill = Check.reading(before);
+        mill.wipe();
+        Check.write(mill, then);
+        Check.same("read() of " + then, mill.read(), 0);
+        return mill;
     }
 
     private static void kind(String text, int due) {

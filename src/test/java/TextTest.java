@@ -126,85 +126,85 @@ public final class TextTest {
     }
 
     private static void charactersThatCannotStand() {
-        fault("", 1, 0);
-        fault("   ", 1, 3);
-        fault("A", 1, 1);
-        fault("A:", 1, 2);
-        fault("A:a", 1, 3);
-        fault("A:a|", 1, 4);
-        fault("A:a  ", 1, 5);
-        fault("A:a;B", 1, 5);
-        fault("A:a;;", 1, 4);
-        fault("a:a;", 1, 0);
-        fault(".:a;", 1, 0);
-        fault("I:a;", 1, 0);
-        fault(";", 1, 0);
-        fault("A;", 1, 1);
-        fault("A|a;", 1, 1);
-        fault(" A A:a;", 1, 3);
-        fault("A:a:b;", 1, 3);
-        fault("A:a.;", 1, 3);
-        fault("A:aI;", 1, 3);
-        fault("A:i;", 1, 2);
-        fault("A:@;", 1, 2);
-        fault("A:`;", 1, 2);
-        fault("A:aaaaz;", 1, 6);
-        fault("A:aaaa.;", 1, 6);
-        fault("A:B", 1, 3);
+        Check.fault("", 1, 0);
+        Check.fault("   ", 1, 3);
+        Check.fault("A", 1, 1);
+        Check.fault("A:", 1, 2);
+        Check.fault("A:a", 1, 3);
+        Check.fault("A:a|", 1, 4);
+        Check.fault("A:a  ", 1, 5);
+        Check.fault("A:a;B", 1, 5);
+        Check.fault("A:a;;", 1, 4);
+        Check.fault("a:a;", 1, 0);
+        Check.fault(".:a;", 1, 0);
+        Check.fault("I:a;", 1, 0);
+        Check.fault(";", 1, 0);
+        Check.fault("A;", 1, 1);
+        Check.fault("A|a;", 1, 1);
+        Check.fault(" A A:a;", 1, 3);
+        Check.fault("A:a:b;", 1, 3);
+        Check.fault("A:a.;", 1, 3);
+        Check.fault("A:aI;", 1, 3);
+        Check.fault("A:i;", 1, 2);
+        Check.fault("A:@;", 1, 2);
+        Check.fault("A:`;", 1, 2);
+        Check.fault("A:aaaaz;", 1, 6);
+        Check.fault("A:aaaa.;", 1, 6);
+        Check.fault("A:B", 1, 3);
         LookaheadMill blanks = Check.reading("  A  : a A |b ;  ");
         Check.same("blanks count for nothing", blanks.symbol(1, 1), 'A');
         Check.same("the highest letters", Check.reading("H:hH|h;").number(0), 2);
     }
 
     private static void secondRulesAndFifthLetters() {
-        fault("A:a;A:b;", 2, 4);
-        fault("A:a; A", 2, 5);
-        fault("A:a;B:b;A:aaaaa;", 2, 8);
-        fault("A:a;A:aaaaa;", 2, 4);
-        fault("A:aaaaa;A:b;", 3, 6);
-        fault("A:aa aa A;", 3, 8);
-        fault("A:a|B|AAAAA;", 3, 10);
-        fault("A:aaaaC;", 3, 6);
+        Check.fault("A:a;A:b;", 2, 4);
+        Check.fault("A:a; A", 2, 5);
+        Check.fault("A:a;B:b;A:aaaaa;", 2, 8);
+        Check.fault("A:a;A:aaaaa;", 2, 4);
+        Check.fault("A:aaaaa;A:b;", 3, 6);
+        Check.fault("A:aa aa A;", 3, 8);
+        Check.fault("A:a|B|AAAAA;", 3, 10);
+        Check.fault("A:aaaaC;", 3, 6);
         Check.same("four letters may be", Check.reading("A:aaaa|bbbb;").number(0), 2);
     }
 
     private static void sixteenthAlternatives() {
-        fault("A:|||||||||||||||;", 4, 16);
-        fault("A:||||||||||||||;B:", 4, 18);
-        fault("A:||||||||||||||;B :b;", 4, 19);
-        fault("A:||||||||||||||;A:b;", 2, 17);
-        fault("A:a|aaaaa|||||||||||||||;", 3, 8);
+        Check.fault("A:|||||||||||||||;", 4, 16);
+        Check.fault("A:||||||||||||||;B:", 4, 18);
+        Check.fault("A:||||||||||||||;B :b;", 4, 19);
+        Check.fault("A:||||||||||||||;A:b;", 2, 17);
+        Check.fault("A:a|aaaaa|||||||||||||||;", 3, 8);
         LookaheadMill most = Check.reading("A:||||||||||||||;");
         Check.same("fifteen may be", most.number(0), 15);
     }
 
     private static void missingRules() {
-        fault("A:aB;", 5, 3);
-        fault("B:bA;", 5, 3);
-        fault("A:a|CB;", 5, 4);
-        fault("A:a|B;B:HA|C;", 5, 8);
-        fault("A:AB;", 5, 3);
-        fault("A:a;C:B;", 5, 6);
-        fault("A:  AGG;", 5, 5);
+        Check.fault("A:aB;", 5, 3);
+        Check.fault("B:bA;", 5, 3);
+        Check.fault("A:a|CB;", 5, 4);
+        Check.fault("A:a|B;B:HA|C;", 5, 8);
+        Check.fault("A:AB;", 5, 3);
+        Check.fault("A:a;C:B;", 5, 6);
+        Check.fault("A:  AGG;", 5, 5);
     }
 
     private static void barrenNonterminals() {
-        fault("A:A;", 6, 0);
-        fault(" A:aA;", 6, 1);
-        fault("A:B;B:Bb;", 6, 0);
-        fault("A:a|B; B:Bb;", 6, 7);
-        fault("A:a|C|B;C:C;B:B;", 6, 8);
-        fault("A:a;B:b;C:C;", 6, 8);
-        fault("A:a|B;B:C;C:B;", 6, 6);
+        Check.fault("A:A;", 6, 0);
+        Check.fault(" A:aA;", 6, 1);
+        Check.fault("A:B;B:Bb;", 6, 0);
+        Check.fault("A:a|B; B:Bb;", 6, 7);
+        Check.fault("A:a|C|B;C:C;B:B;", 6, 8);
+        Check.fault("A:a;B:b;C:C;", 6, 8);
+        Check.fault("A:a|B;B:C;C:B;", 6, 6);
         Check.same("a row without tokens will do", Check.reading("A:A|B;B:;").number(0), 3);
         Check.same("made from what comes later", Check.reading("A:BC;B:C;C:c;").number(0), 3);
     }
 
     private static void unreachedNonterminals() {
-        fault("A:a;C:c;B:b;", 7, 4);
-        fault("A:a; B:C;C:c|B;", 7, 5);
-        fault("B:b;A:B;", 7, 4);
-        fault("A:aB;B:b;C:A;", 7, 9);
+        Check.fault("A:a;C:c;B:b;", 7, 4);
+        Check.fault("A:a; B:C;C:c|B;", 7, 5);
+        Check.fault("B:b;A:B;", 7, 4);
+        Check.fault("A:aB;B:b;C:A;", 7, 9);
         Check.same("the start need stand in no right side", Check.reading("H:A;A:a;").number(0), 2);
     }
 
@@ -212,19 +212,11 @@ public final class TextTest {
         String forty = "A:aaaa|baaa|caaa|daaa|eaaa|faaa|gaaa|haaa|abaa|acaa";
         LookaheadMill mill = Check.reading(forty + ";");
         Check.same("forty states may be", mill.number(1), 40);
-        fault(forty + "|ad;", 8, -1);
+        Check.fault(forty + "|ad;", 8, -1);
         mill.wipe();
         Check.write(mill, forty + "|ad;");
         Check.same("fault 8", mill.read(), 8);
         Check.same("place of fault 8", mill.place(), -1);
         Check.throwsState("no grammar behind fault 8", () -> mill.number(1));
-    }
-
-    private static void fault(String text, int due, int place) {
-        LookaheadMill mill = new LookaheadMill();
-        Check.write(mill, text);
-        Check.same("read() of " + text, mill.read(), due);
-        Check.same("place() in " + text, mill.place(), place);
-        Check.throwsState("number(0) of " + text, () -> mill.number(0));
     }
 }
