@@ -188,7 +188,8 @@ public final class GrammarTest {
 
     /** What was found for the text before must leave no trace. */
     private static void tablesOfASecondText() {
-        String[] texts = {SUMS, BY_AHEAD_ALONE, NOT_AT_ALL, "A:;", "H:hHh|;", "A:aBC;B:b|;C:c|BB;", "A:AaA|d;"};
+        String[] texts = {SUMS, BY_AHEAD_ALONE, NOT_AT_ALL, "A:;", "H:hHh|;", "A:aBC;B:b|;C:c|BB;", "A:AaA|d;",
+            "A:cAbA|;", "A:|A;", "A:cAA|b;", "A:A|a;"};
         for (String before : texts) {
             for (String then : texts) {
                 String due = Tables.of(() -> Check.reading(then));

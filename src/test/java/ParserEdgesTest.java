@@ -44,6 +44,7 @@ public final class ParserEdgesTest {
         yieldsOfLeaves();
         yieldsOfChildren();
         yieldsWithoutChildren();
+        yieldsWithoutChildrenAnew();
         goesOnWithTheSameToken();
         Check.end();
     }
@@ -369,6 +370,9 @@ public final class ParserEdgesTest {
         Check.same("none", none.expected(), 0);
         row(none, "c", REFUSED);
         Check.same("none, when it has refused", none.expected(), 0);
+        LookaheadMill past = Check.reading("A:H;H:h;");
+        past.open(1, 0);
+        Check.same("no nonterminal", past.expected(), 128);
         LookaheadMill end = Check.reading("A:;");
         end.open(1, 0);
         Check.same("the end alone", end.expected(), 256);
@@ -516,6 +520,17 @@ public final class ParserEdgesTest {
                 node(mill, before + 2, 'A', 1, before - 1, before, before - 1, before + 1);
             }
         }
+    }
+
+    /** What another row of tokens left must not show, where neither a child nor a token is behind the node. */
+    private static void yieldsWithoutChildrenAnew() {
+        LookaheadMill mill = Check.reading("A:aA|B;B:;");
+        mill.open(24, 60);
+        row(mill, "aa.", ACCEPTED);
+        mill.open(24, 60);
+        row(mill, ".", ACCEPTED);
+        node(mill, 0, 'B', 3, 0, 0);
+        node(mill, 1, 'A', 2, 0, 0, 0);
     }
 
     /** "then it goes on with the same token." */

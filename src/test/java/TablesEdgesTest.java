@@ -29,6 +29,8 @@ public final class TablesEdgesTest {
         nullable();
         first();
         follow();
+        startThatIsNotA();
+        behindTheFourthLetter();
         leastSets();
         itemStates();
         itemNumbers();
@@ -129,7 +131,10 @@ public final class TablesEdgesTest {
         Check.same("two states of fifteen productions", most.number(1), 2);
         Check.same("kind 3", most.number(2), 3);
         Check.same("one cell", most.number(3), 1);
-        Check.same("forty states", Check.reading(FORTY_STATES).number(1), 40);
+        LookaheadMill forty = Check.reading(FORTY_STATES);
+        Check.same("forty states", forty.number(1), 40);
+        Check.same("kind 0 of forty states", forty.number(2), 0);
+        Check.same("no cell of forty states", forty.number(3), 0);
         Check.same("three states", Check.reading("A:a;").number(1), 3);
     }
 
@@ -238,6 +243,31 @@ public final class TablesEdgesTest {
         sets("A:Cd;C:aB;B:b;", 'B', 0, 2, 8);
         sets("H:h|BA;B:A;A:a;", 'A', 0, 1, 1 + 256);
         sets("A:B;B:C;C:D;D:E;E:F;F:G;G:H;H:h;", 'H', 0, 128, 256);
+        sets("A:B|;B:Aa;", 'B', 0, 1, 1 + 256);
+        sets("B:AA;A:aBdA|;", 'A', 1, 1, 1 + 8 + 256);
+        sets("B:AA|b;A:BcB;", 'A', 0, 2, 2 + 4 + 256);
+    }
+
+    /** "The nonterminal of the first rule is the START. Production 0 has no left side" */
+    private static void startThatIsNotA() {
+        sets("B:Ac|;A:a;", 'B', 1, 1, 256);
+        sets("B:Ac|;A:a;", 'A', 0, 1, 4);
+        sets("B:Ac|h;A:a|;", 'B', 0, 1 + 4 + 128, 256);
+        sets("H:aA;A:bH|A|;", 'H', 0, 1, 256);
+        LookaheadMill mill = Check.reading("B:Ac|;A:a;");
+        Check.same("the state behind the start", mill.item(mill.go(0, 'B'), 0), 1);
+        behind(mill, mill.go(0, 'B'), 0, 256, 256, 256);
+    }
+
+    /** "a row of up to four letters": what is behind the fourth is of that production alone. */
+    private static void behindTheFourthLetter() {
+        sets("A:aaaB|c;B:b;", 'B', 0, 2, 256);
+        sets("A:aaB|c;B:b;", 'B', 0, 2, 256);
+        LookaheadMill mill = Check.reading("H:aaEe|aaab;B:c;E:abB;");
+        int fourth = mill.go(mill.go(mill.go(mill.go(0, 'a'), 'a'), 'a'), 'b');
+        items(mill, fourth, 20, 24, 34);
+        behind(mill, fourth, 2, 511, 256, 256);
+        behind(mill, mill.go(fourth, 'c'), 3, 511, 16, 16);
     }
 
     /** "(the least such sets are meant here, and in what follows)" */
@@ -632,6 +662,8 @@ public final class TablesEdgesTest {
         Check.same("forty states", high.number(1), 40);
         Check.same("the end in the last state", high.unsettled(0), 16 * 39 + 8);
         Check.same("behind it", high.unsettled(1), -1);
+        Check.same("how many in forty states", high.number(3), 1);
+        Check.same("kind of forty states", high.number(2), 3);
     }
 
     private static void sets(String text, char nonterminal, int nullable, int first, int follow) {

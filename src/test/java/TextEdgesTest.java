@@ -563,6 +563,7 @@ public final class TextEdgesTest {
         Check.fault("A:aB;B:bB;", 6, 0);
         Check.fault("A:a|bB;B:bB;", 6, 7);
         Check.fault("A:BaaC|a;B:b;C:cC;", 6, 13);
+        Check.fault("B:b|A;A:A;", 6, 6);
         Check.same("by what is told last", Check.reading("A:B;B:C;C:D;D:E;E:F;F:G;G:H;H:;").number(0), 8);
         Check.fault("A:B;B:C;C:D;D:E;E:F;F:G;G:H;H:H;", 6, 0);
     }
