@@ -863,7 +863,10 @@ public final class LookaheadMill {
         private void handOnItem(int state, int production, int dot) {
             int ahead = aheadOf(state, production, dot);
             int symbol = grammar.letter(production, dot);
-            add(states.goal(state, symbol), production, dot + 1, ahead);
+            int goal = states.goal(state, symbol);
+            if (goal != NONE) {
+                add(goal, production, dot + 1, ahead);
+            }
             if (symbol < NONTERMINALS) {
                 int starts = sets.startsOf(production, dot + 1, ahead);
                 for (int inner = grammar.firstOf[symbol]; inner <= grammar.lastOf[symbol]; inner++) {
@@ -1191,13 +1194,24 @@ public final class LookaheadMill {
 
         private void reduce(int production) {
             int lower = height - grammar.length[production];
-            if (!hasRoom(lower + 1)) {
+            int goal = goalFrom(lower, grammar.left[production]);
+            if (goal == NONE) {
+                status = REFUSED;
+            } else if (!hasRoom(lower + 1)) {
                 status = FULL;
-                return;
+            } else {
+                int node = tree.addBranch(production, nodeAt, lower, taken);
+                height = lower;
+                push(goal, node);
             }
-            int node = tree.addBranch(production, nodeAt, lower, taken);
-            height = lower;
-            push(states.goal(topState(), grammar.left[production]), node);
+        }
+
+        /**
+         * There always is one, as the right side stands on the stack above a state with its item; it is
+         * looked at so that no index rests on that alone.
+         */
+        private int goalFrom(int newHeight, int nonterminal) {
+            return newHeight < 1 ? NONE : states.goal(stateAt[newHeight - 1], nonterminal);
         }
 
         private boolean hasRoom(int newHeight) {
